@@ -77,6 +77,8 @@ public final class SecretWellsPlain {
         private final Plain p = new Plain();
         private String text = "";
         private final List<String> calls = new ArrayList<>();
+        private int rainSet = 1;
+        private int rainDays = 5;
 
         Run(Random random, int run, Map<String, Integer> seen) {
             this.random = random;
@@ -308,12 +310,24 @@ public final class SecretWellsPlain {
             }
         }
 
+        /** Often the same question as the last time, so that an answer that was kept too long is found. */
         private void rain() {
+            if (below(2) == 0) {
+                rainChanges();
+            }
+            askRain(rainSet, rainDays);
+        }
+
+        private void rainChanges() {
             int set = about(1 << p.secrets());
             for (int i = 0; i < 6 && Integer.bitCount(set) > 3 && below(20) > 0; i++) {
                 set &= set - 1;
             }
-            int n = below(20) == 0 ? about(61) : 1 + below(10);
+            rainSet = set;
+            rainDays = below(20) == 0 ? about(61) : 1 + below(10);
+        }
+
+        private void askRain(int set, int n) {
             int what = about(3);
             due("rain(" + set + ", " + n + ", " + what + ")", x.rain(set, n, what), p.rain(set, n, what));
             int i = about(Math.max(1, Integer.bitCount(set)));

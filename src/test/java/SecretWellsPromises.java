@@ -649,6 +649,7 @@ public final class SecretWellsPromises {
         due("manIn(1, 1, 2)", x.manIn(1, 1, 2), 10);
         due("manIn(2, 1, 2)", x.manIn(2, 1, 2), 14);
         due("manIn(2, 0, 2)", x.manIn(2, 0, 2), 12);
+        due("manIn(2, 200, 2)", x.manIn(2, 200, 2), 14);
         due("manIn(0, 1, 3)", x.manIn(0, 1, 3), -1);
         due("manIn(0, 1, -1)", x.manIn(0, 1, -1), -1);
         due("manIn(3, 1, 0)", x.manIn(3, 1, 0), -1);
@@ -720,6 +721,7 @@ public final class SecretWellsPromises {
         x.undo();
         due("behind undo()", x.rainAt(1, 4, 0), 0);
         moreRain();
+        rainBehindEach();
     }
 
     private static void moreRain() {
@@ -752,6 +754,35 @@ public final class SecretWellsPromises {
         due("THIRST in 1 DAY", x.rain(1, 1, 1), 0);
         x.cut(0, true);
         due("behind a cut", x.rain(1, 2, 1), 0);
+    }
+
+    /** The same question behind each thing that can be done: never the answer of ahead. */
+    private static void rainBehindEach() {
+        SecretWells x = of("well w 5 0; well v 20 0; man a w 9; man b w 0; secret s 5 a; secret t 5 a; tie a b; tells = 100; fills = 9; thirst 3;");
+        due("rain(1, 2, 1)", x.rain(1, 2, 1), 1);
+        x.go(0, 1);
+        due("behind go()", x.rain(1, 2, 1), 0);
+        x.undo();
+        due("behind undo()", x.rain(1, 2, 1), 1);
+        x.hold(0);
+        x.cut(0, true);
+        due("behind cut()", x.rain(1, 2, 1), 0);
+        due("behind cut()", x.rain(1, 2, 2), 1);
+        x.whisper(0, 1, 0);
+        due("behind whisper()", x.rain(1, 2, 2), 0);
+        x.undo();
+        x.drill(0, 1, 0);
+        due("behind drill()", x.rain(1, 2, 2), 0);
+        x.tell(0, 1, 1);
+        due("behind tell()", x.rain(1, 2, 2), 1);
+        x.restore(0);
+        due("behind restore()", x.rain(1, 2, 1), 1);
+        due("rain(1, 1, 1)", x.rain(1, 1, 1), 0);
+        x.days(1);
+        due("behind days()", x.rain(1, 1, 1), 2);
+        feed(x, "well w 5 0; secret s 5;");
+        x.read();
+        due("behind read()", x.rain(1, 1, 1), 0);
     }
 
     private static void silenceReach() {
