@@ -1131,16 +1131,16 @@ public final class SecretWells {
             for (int i = 0; i < size && i < steps.length; i++) {
                 int step = steps[i] & 255;
                 int number = steps[i] >> 8;
-                if (step == END) {
-                    return top < 1 ? 0 : Math.max(0, Math.min(most, stack[top - 1]));
-                }
                 if (step <= VARIABLE) {
-                    if (top >= stack.length || step == VARIABLE && number >= variables.length) {
+                    if (top >= stack.length || step == VARIABLE && (number < 0 || number >= variables.length)) {
                         return 0;
                     }
                     stack[top] = step == NUMBER ? number : variables[number];
                     top++;
                     continue;
+                }
+                if (step == END) {
+                    return top < 1 ? 0 : Math.max(0, Math.min(most, stack[top - 1]));
                 }
                 if (top < 2) {
                     return 0;

@@ -742,6 +742,19 @@ public final class SecretWellsPromises {
         due("rainAt(3, 5, 0)", x.rainAt(3, 5, 0), 0);
         due("rainAt(3, 5, 1)", x.rainAt(3, 5, 1), 1);
         due("rainAt(2, 5, 0)", x.rainAt(2, 5, 0), 1);
+        // Whispered into the first well, it is of more use in the second one; and the other way round.
+        x = of("well u 0 0; well v 0 0; man a u 0; man b v 9; secret s 1 a; fills = 9; thirst 1;");
+        x.whisper(0, 0, 0);
+        due("rain(1, 5, 0)", x.rain(1, 5, 0), 0);
+        due("rain(1, 5, 2)", x.rain(1, 5, 2), 1);
+        due("rainAt(1, 5, 0)", x.rainAt(1, 5, 0), 1);
+        x.go(1, 0);
+        x.whisper(0, 0, 1);
+        due("rain(1, 5, 2)", x.rain(1, 5, 2), 1);
+        due("rainAt(1, 5, 0)", x.rainAt(1, 5, 0), 0);
+        x.go(1, 1);
+        due("where it is: left", x.rainAt(1, 5, 0), -3);
+        rainInOrder();
         // s is known by all, but by the only one alive when the others have died: it HOLDS then.
         x = of("well u 9 9; well v 0 0; man a u 9; man b v 9; secret s 5 a b; fills = 0; thirst 1;");
         due("one dies at once, one later", x.rain(1, 2, 0), 2);
@@ -754,6 +767,26 @@ public final class SecretWellsPromises {
         due("THIRST in 1 DAY", x.rain(1, 1, 1), 0);
         x.cut(0, true);
         due("behind a cut", x.rain(1, 2, 1), 0);
+    }
+
+    /** The first SECRET is whispered first: where t leaves u ahead of s, the WATER of u is gone before s holds it. */
+    private static void rainInOrder() {
+        String men = "well u 0 0; well v 0 0; man a u 5; man b v 9; man c u 0;";
+        String fills = "fills = if day < 1 then 99 * (1 - which) else 9 * which;";
+        SecretWells x = of(men + "secret t 2 a; secret s 1 a b;" + fills);
+        due("t into u", x.whisper(0, 0, 0), 20);
+        x.days(1);
+        due("u has 15 left", x.well(0, 1), 15);
+        due("a thirsts", x.rain(3, 1, 1), 1);
+        due("t goes to v", x.rainAt(3, 1, 0), 1);
+        due("s is left", x.rainAt(3, 1, 1), -3);
+        x = of(men + "secret s 1 a b; secret t 2 a;" + fills);
+        due("t into u", x.whisper(0, 1, 0), 20);
+        x.days(1);
+        due("nobody thirsts", x.rain(3, 1, 1), 0);
+        due("two whispers", x.rain(3, 1, 2), 2);
+        due("s goes to u", x.rainAt(3, 1, 0), 0);
+        due("t goes to v", x.rainAt(3, 1, 1), 1);
     }
 
     /** The same question behind each thing that can be done: never the answer of ahead. */
