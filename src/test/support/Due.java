@@ -14,6 +14,13 @@ final class Due {
         + "secret old 6 ann; secret two 4 ann bob; secret lie 9 false cid; secret all 3 ann bob cid;"
         + "tie ann cid; tie cid bob; fills = 3; tells = if heavy < 5 then 100 else 0; thirst 3; salt 4;";
 
+    /** As many of each sort as there may be. */
+    static final String FULL = "well a 30 20; well b 0 0; well c 50 60; well d 999 999;"
+        + "man p a 5; man q a 6; man r b 7; man s c 0; man t d 99; man u d 3; man v c 9;"
+        + "secret aa 9 p; secret bb 5 p q; secret cc 7 false r; secret dd 3 p q r s t u v; secret ee 1 v; secret ff 99 s u;"
+        + "secret gg 4; secret hh 6 t p u; tie p q; tie q r; tie r s; tie s t; tie t u; tie u v; tie v p; tie p v; tie v u; tie q p;"
+        + "tie s q; tie p t; tells = 30 + heavy; fills = 3 + which; thirst 3; salt 4; seed 17;";
+
     private static final Set<String> SENTENCES = new TreeSet<>();
     private static String sentence = "";
     private static int wrong = 0;
@@ -121,7 +128,18 @@ final class Due {
     }
 
     static SecretWells eventful() {
-        SecretWells x = of(VILLAGE);
+        return withEvents(of(VILLAGE));
+    }
+
+    /** The same things in the FULL text: somebody is dead behind them. */
+    static SecretWells full() {
+        SecretWells x = withEvents(of(FULL));
+        x.days(1);
+        due("p and r are dead", x.count(5), 122);
+        return x;
+    }
+
+    private static SecretWells withEvents(SecretWells x) {
         x.note(0, 1, 80);
         x.note(1, 6, 30);
         x.whisper(0, 0, 0);
@@ -226,6 +244,13 @@ final class Due {
             all.append(x.restore(slot) ? shortlyShown(x) : "\n    no slot");
         }
         return all.append("\n    tape ").append(x.read()).append(' ').append(x.place()).toString();
+    }
+
+    /** Nothing happens by the call, whatever it answers. */
+    static void untouched(String call, Made made, Call asked) {
+        SecretWells x = made.made();
+        asked.on(x);
+        due("what there is behind " + call, probed(x), probed(made.made()));
     }
 
     /** The call answers so, and nothing happens: all is as in an object that was not asked. */
