@@ -4,6 +4,7 @@ public final class SecretWellsAheadBounds {
         nothingHappens();
         inDays();
         asItIsThen();
+        fromAllThatIsNow();
         dryBy();
         dryForTheFirstTime();
         firstToDie();
@@ -15,6 +16,9 @@ public final class SecretWellsAheadBounds {
         rainByWhispers();
         rainByWells();
         rainLeft();
+        rainFromEachWell();
+        rainOfAllSeven();
+        rainOfNow();
         silenceFewest();
         silenceLeastBits();
         silenceWays();
@@ -31,6 +35,9 @@ public final class SecretWellsAheadBounds {
         worth();
         Due.end();
     }
+
+    /** Nobody thirsts; a may tell b. */
+    private static final String PAIR = "well w 90 90; man a w 0; man b w 0; secret s 5 a; tie a b;";
 
     private static void nothingHappens() {
         Due.sentence("What would be (nothing happens).");
@@ -104,6 +111,29 @@ public final class SecretWellsAheadBounds {
                 Due.due("SECRETS in " + n, x.manIn(m, n, 2), then.man(m, 3));
             }
         }
+    }
+
+    private static void fromAllThatIsNow() {
+        Due.sentence("In n DAYS (0 .. 200): how DEEP a WELL is, its WATER, who is alive, who knows a SECRET, THIRST of a MAN.");
+        Due.due("asked for first: he is alive", Due.of("well d 0 0; man m d 1; thirst 3;").manIn(0, 2, 0), 1);
+        Due.due("asked for first: THIRST", Due.of("well d 0 0; man m d 1; thirst 3;").manIn(0, 2, 1), 2);
+        Due.due("asked for first: WATER", Due.of("well d 9 0; man m d 1; fills = 3;").wellIn(0, 2, 1), 4);
+        SecretWells x = Due.of(PAIR + "tells = 100;");
+        Due.due("he is told", x.manIn(1, 1, 2), 1);
+        x.cut(0, true);
+        Due.due("a TIE that is cut", x.manIn(1, 200, 2), 0);
+        Due.due("a TIE that is cut", x.odds(1, 0, 100, 20), 0);
+        x.cut(0, false);
+        Due.due("tied again", x.manIn(1, 1, 2), 1);
+        x = Due.of("well u 90 0; well v 90 0; man a u 0; man b u 0; man c v 0; secret s 1 a; secret t 1 b; fills = 10 * know + with;");
+        x.whisper(0, 0, 0);
+        x.whisper(1, 1, 0);
+        Due.due("two HOLD, two drink", x.wellIn(0, 1, 1), 22);
+        Due.due("none, one", x.wellIn(1, 1, 1), 1);
+        x.go(1, 1);
+        x.whisper(1, 1, 1);
+        Due.due("one, one", x.wellIn(0, 1, 1), 11);
+        Due.due("one, two", x.wellIn(1, 1, 1), 12);
     }
 
     private static void dryBy() {
@@ -277,6 +307,11 @@ public final class SecretWellsAheadBounds {
         Due.due("whispers", x.rain(3, 1, 2), 1);
         Due.due("s into v", x.rainAt(3, 1, 0), 1);
         Due.due("t is left", x.rainAt(3, 1, 1), -3);
+        // t and r (10 + 10) are met first, but s (20) alone does.
+        x = Due.of("well u 0 0; man a u 15; man b u 0; secret s 2 a; secret t 1 a; secret r 1 a; fills = 99;");
+        Due.due("nobody thirsts", x.rain(7, 1, 1), 0);
+        Due.due("whispers", x.rain(7, 1, 2), 1);
+        rainWay(x, 7, 0, -3, -3);
         x = Due.of("well u 99 99; man a u 1; secret s 1 a; secret t 1 a; secret r 1 a; secret q 1 a; fills = 99;");
         Due.due("none is fewest", x.rain(15, 60, 2), 0);
     }
@@ -322,6 +357,60 @@ public final class SecretWellsAheadBounds {
         Due.due("c dies", x.rain(3, 1, 0), 1);
     }
 
+    /** Wherever it is, it goes where it is wanted; where it is wanted, it is left. */
+    private static void rainFromEachWell() {
+        Due.sentence("into some WELL, that where it is too, or is left as it is");
+        String wells = "well a 0 0; well b 0 0; well c 0 0; well d 0 0;";
+        for (int is = 0; is < 4; is++) {
+            for (int wanted = 0; wanted < 4; wanted++) {
+                SecretWells x = Due.of(wells + "man m " + "abcd".charAt(wanted) + " 9; secret n 1; secret s 1 m; fills = 9;");
+                x.whisper(0, 1, is);
+                Due.due("from " + is + " to " + wanted, x.rainAt(2, 1, 0), is == wanted ? -3 : wanted);
+                Due.due("from " + is + " to " + wanted, x.rainAt(3, 1, 1), is == wanted ? -3 : wanted);
+                Due.due("nobody thirsts", x.rain(2, 1, 1), 0);
+                Due.due("whispers", x.rain(2, 1, 2), is == wanted ? 0 : 1);
+            }
+        }
+    }
+
+    private static void rainOfAllSeven() {
+        Due.sentence("that way by which fewest die in n DAYS;");
+        StringBuilder seven = new StringBuilder("well w 0 0; secret n 1; fills = 0; thirst 2;");
+        for (char c = 'a'; c < 'h'; c++) {
+            seven.append("man ").append(c).append(" w 1;");
+        }
+        SecretWells x = Due.of(seven + "secret s 1 a;");
+        Due.due("THIRST in 1", x.rain(3, 1, 1), 7);
+        for (int set : new int[] {1, 2, 3}) {
+            Due.due("all seven die", x.rain(set, 60, 0), 7);
+            Due.due("nobody is left to thirst", x.rain(set, 60, 1), 0);
+            Due.due("no whispers", x.rain(set, 60, 2), 0);
+            Due.due("left", x.rainAt(set, 60, 0), -3);
+        }
+    }
+
+    /** The same question behind each thing done, and behind another text, is asked of what is then. */
+    private static void rainOfNow() {
+        Due.sentence("each is whispered now by the first MAN alive who knows it");
+        SecretWells x = Due.of("well w 5 0; well v 20 0; man a w 9; man b w 0; secret s 5 a; secret t 5 a; tie a b; tells = 100; fills = 9; thirst 3;");
+        Due.due("a thirsts when b knows it", x.rain(1, 2, 1), 1);
+        x.hold(0);
+        x.cut(0, true);
+        Due.due("behind cut()", x.rain(1, 2, 1), 0);
+        x.undo();
+        Due.due("behind undo()", x.rain(1, 2, 1), 1);
+        x.go(0, 1);
+        Due.due("behind go()", x.rain(1, 2, 1), 0);
+        x.restore(0);
+        Due.due("behind restore()", x.rain(1, 2, 1), 1);
+        Due.due("in 1 DAY", x.rain(1, 1, 1), 0);
+        x.days(1);
+        Due.due("behind days()", x.rain(1, 1, 1), 2);
+        Due.feed(x, "well w 5 0; secret s 5;");
+        x.read();
+        Due.due("behind read()", x.rain(1, 1, 1), 0);
+    }
+
     // ---- SILENCE and REACH
 
     private static final String FOUR = "well w 90 90; man a w 0; man b w 0; man c w 0; man d w 0; fills = 0; secret s 1 a; secret t 1 a b; secret n 1; secret l 9 false a;";
@@ -346,6 +435,10 @@ public final class SecretWellsAheadBounds {
         silence(x, 0, 1, 12, 4095);
         x.cut(11, true);
         silence(x, 0, 1, 11, 2047);
+        String ab = "well w 9 9; man a w 0; man b w 0; secret s 1 a;";
+        silence(Due.of(ab + Due.times(11, "tie a b;") + "tie b a;"), 0, 1, 11, 2047);
+        silence(Due.of(ab + "tie b a;" + Due.times(11, "tie a b;")), 0, 1, 11, 4094);
+        silence(Due.of(ab + "tie b a; tie b a;" + Due.times(10, "tie a b;")), 0, 1, 10, 4092);
         x = Due.of("well w 9 9; man a w 0; man b w 0; secret s 1 a;" + Due.times(11, "tie b a;") + "tie a b;");
         silence(x, 0, 1, 1, 2048);
     }
@@ -569,6 +662,12 @@ public final class SecretWellsAheadBounds {
         }
         rests(Due.of(seven.toString()), 0, 0, 127);
         rests(Due.of(seven.toString()), 1, 0, 127);
+        // Known by six of seven it makes just 1 deeper: those six may.
+        StringBuilder six = new StringBuilder("well u 6 0;");
+        for (char c = 'a'; c < 'h'; c++) {
+            six.append("man ").append(c).append(" u 0;");
+        }
+        rests(Due.of(six + "secret s 1 a b c d e f;"), 0, 0, 63);
     }
 
     // ---- ODDS, DEATHS, WORTH

@@ -414,6 +414,16 @@ public final class SecretWellsDayBounds {
         x.days(1);
         Due.due("with: who are alive", x.well(0, 5), Integer.bitCount(x.well(0, 4)));
         Due.due("somebody died", Integer.bitCount(x.well(0, 4)) < 3, true);
+        x = Due.of("well w 90 0; man a w 5; man b w 0; secret s 7 a; tie a b; fills = if day < 3 then 0 else 10 * dry + heavy; drinks = 50 + heavy;"
+            + "tells = if day < 3 then 0 else 10 * dry + heavy;");
+        x.days(3);
+        Due.due("TELLS has both: 30 + 7", x.tells(0, 0), 37);
+        Due.due("FILLS has neither, whatever was asked ahead", x.well(0, 5), 0);
+        x.tells(0, 0);
+        Due.due("DRINKS has no heavy, whatever was asked ahead", x.man(0, 4), 50);
+        Due.due("FILLS has no dry, whatever was asked ahead", x.well(0, 5), 0);
+        x.days(2);
+        Due.due("nothing came of them", x.well(0, 1), 0);
         Due.sentence("know: how many SECRETS they know just then (FILLS: how many HOLD in it);");
         Due.due("of three whispered one HOLDS", many("know").well(1, 5), 1);
         Due.due("none", many("know").well(0, 5), 0);
@@ -727,6 +737,16 @@ public final class SecretWellsDayBounds {
         undone("go", x -> x.go(0, 0) ? 1 : -1);
         undone("cut", x -> x.cut(0, true) ? 1 : -1);
         undone("cut", x -> x.cut(1, false) ? 1 : -1);
+        SecretWells x = Due.of(Due.VILLAGE);
+        x.cut(1, true);
+        x.whisper(0, 0, 0);
+        x.cut(0, true);
+        x.undo();
+        Due.due("TIE 1 is cut", x.count(6), 2);
+        Due.due("one whisper", x.count(7), 1);
+        x.undo();
+        Due.due("TIE 1 is cut", x.count(6), 2);
+        Due.due("no whisper", x.count(7), 0);
     }
 
     private static void noThingDone() {

@@ -534,6 +534,15 @@ public final class SecretWellsTextBounds {
         lotIs("seed 9999;", Due.lot(100, 9999, 0));
         lotIs("seed 4; seed 77;", Due.lot(100, 77, 0));
         lotIs("seed 77; seed 0;", Due.lot(100, 0, 0));
+        String pair = "well w 9 9; man a w 0; man b w 0; secret s 1 a; tie a b; tells = " + (Due.lot(100, 0, 0) + 1) + ";";
+        Due.due("LOT of SEED 1 is more than that of SEED 0", Due.lot(100, 1, 0) > Due.lot(100, 0, 0), true);
+        SecretWells x = new SecretWells();
+        for (int i = 0; i < 6; i++) {
+            boolean isTold = i % 3 == 0;
+            Due.feed(x, isTold ? pair + "seed 1;" : pair);
+            Due.due("read()", x.read(), 0);
+            Due.due("SEED of text " + i + " alone", x.manIn(1, 1, 2), isTold ? 0 : 1);
+        }
     }
 
     // ---- FAULTS
@@ -788,7 +797,7 @@ public final class SecretWellsTextBounds {
 
     private static void nothingIsLeftOfAFault() {
         Due.sentence("A text with a FAULT changes nothing but the tape;");
-        String good = "well w 9 5; man m w 3; man n w 4; secret s 2 m; secret t 3; tie m n;";
+        String good = "well w 9 5; man m w 3; man n w 4; secret s 2 m; secret t 3; tie m n; tells = 60;";
         String much = "thirst 1; salt 1; seed 1; fills = if 1 < 2 then 77 else 78; tells = 77; drinks = 77; well a 5 5; well b 5 5; man c b 9;"
             + "man d b 9; secret e 5 false c d; secret f 5 false c d; tie d c; tie d c;";
         for (String end : new String[] {"salt 100;", "well a 1 1;", "tie x d;", "secret g 0 false c;"}) {
@@ -797,9 +806,9 @@ public final class SecretWellsTextBounds {
             Due.due("a FAULT", x.read() > 0, true);
             Due.feed(x, good);
             Due.due("read()", x.read(), 0);
-            x.days(3);
+            x.days(1);
             SecretWells y = Due.of(good);
-            y.days(3);
+            y.days(1);
             Due.due("what there is", Due.probed(x), Due.probed(y));
         }
     }

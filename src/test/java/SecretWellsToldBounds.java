@@ -304,6 +304,9 @@ public final class SecretWellsToldBounds {
         x = Due.of("well w 0 0; man a w 0; man b w 0; secret all 1 a b; secret no 1;");
         Due.due("none goes deeper: the first", x.next(0, 0), 0);
         Due.due("all of them", x.next(0, 1), 4);
+        x = Due.of("well w 0 0; man a w 0; man b w 0; man c w 0; man d w 0; man e w 0; man f w 0; man g w 0; secret all 9 a b c d e f g; secret s 1 a b c d e f;");
+        Due.due("1 deeper is deeper", x.next(0, 0), 1);
+        Due.due("the greater half", x.next(0, 1), 2);
         // s + t + u = 20 deeper by three: 1 1 0, 1 0 1, 0 1 1; v is free: 3 and 3, the others 4 and 2.
         x = Due.of("well w 0 0; man a w 0; man b w 0; secret s 1 a; secret t 1 a; secret u 1 a; secret v 1 a;");
         x.note(0, 7, 20);
@@ -399,7 +402,18 @@ public final class SecretWellsToldBounds {
             y.days(5);
             Due.due("it goes on from there", Due.probed(x), Due.probed(y));
         }
-        SecretWells x = Due.rich();
+        SecretWells x = Due.of(Due.VILLAGE);
+        x.whisper(0, 0, 0);
+        x.whisper(0, 0, 1);
+        x.whisper(0, 0, 0);
+        x.cut(1, true);
+        x.hold(0);
+        x.cut(0, true);
+        x.whisper(0, 0, 1);
+        x.restore(0);
+        Due.due("TIES that were cut", x.count(6), 2);
+        Due.due("whispers so far", x.count(7), 3);
+        x = Due.rich();
         x.hold(0);
         x.forget();
         x.note(0, 0, 20);
