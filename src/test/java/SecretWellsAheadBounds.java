@@ -17,6 +17,7 @@ public final class SecretWellsAheadBounds {
         rainByWells();
         rainLeft();
         rainFromEachWell();
+        rainBehindEachWhisper();
         rainOfAllSeven();
         rainOfNow();
         silenceFewest();
@@ -371,6 +372,24 @@ public final class SecretWellsAheadBounds {
                 Due.due("whispers", x.rain(2, 1, 2), is == wanted ? 0 : 1);
             }
         }
+    }
+
+    /** t leaves u with its WATER: if that is ahead of s, nothing is left for s to hold; if it is behind s, 5 are. */
+    private static void rainBehindEachWhisper() {
+        Due.sentence("WATER is no more than DEEP behind each.");
+        String ahead = "well u 0 0; well v 0 0; man a u 5; man b v 9; man c u 0;";
+        String behind = "fills = if day < 1 then 99 * (1 - which) else 9 * which;";
+        SecretWells x = Due.of(ahead + "secret t 2 a; secret s 1 a b;" + behind);
+        x.whisper(0, 0, 0);
+        x.days(1);
+        Due.due("WATER of u", x.well(0, 1), 15);
+        Due.due("t first: somebody thirsts", x.rain(3, 1, 1), 1);
+        x = Due.of(ahead + "secret s 1 a b; secret t 2 a;" + behind);
+        x.whisper(0, 1, 0);
+        x.days(1);
+        Due.due("WATER of u", x.well(0, 1), 15);
+        Due.due("s first: nobody thirsts", x.rain(3, 1, 1), 0);
+        rainWay(x, 3, 0, 1);
     }
 
     private static void rainOfAllSeven() {
