@@ -16,7 +16,10 @@ import java.util.regex.Pattern;
 import java.util.stream.Stream;
 import javax.tools.ToolProvider;
 
-/** README.md: its example answers what it says, its commands run, and the names that it tells are there. */
+/**
+ * README.md: its example answers what it says, the forms of a text that it shows are read, its commands run, and the
+ * names that it tells are there.
+ */
 public final class SecretWellsReadme {
     private static final Path MAIN = Path.of("src/main/java/SecretWells.java");
     /** A call, alone or put into a variable, with its answer behind it. */
@@ -32,6 +35,7 @@ public final class SecretWellsReadme {
         } finally {
             remove(dir);
         }
+        forms(blocks(page, "text"));
         commands(blocks(page, "sh"));
         names(page);
         System.out.println(wrong == 0 ? "the page is as due" : wrong + " things are not as due");
@@ -113,6 +117,54 @@ public final class SecretWellsReadme {
         try (Stream<Path> inside = Files.walk(dir)) {
             inside.sorted((a, b) -> b.compareTo(a)).map(Path::toFile).forEach(File::delete);
         }
+    }
+
+    // ---- the forms of a text
+
+    /** A form at the line's begin; behind two blanks, how many at most, if there is a most. */
+    private static final Pattern FORM = Pattern.compile("(?m)^([a-z].*;) {2,}(?:(\\d+) at most)?.*$");
+    private static final String PIT = "well pit 1 1;";
+    private static final String MEN = "man ann pit 1; man bob pit 1;";
+
+    private static void forms(List<String> blocks) {
+        Set<String> shown = new TreeSet<>();
+        for (String block : blocks) {
+            Matcher m = FORM.matcher(block);
+            while (m.find()) {
+                Matcher word = Pattern.compile("(?:^|; )([a-z]+)").matcher(m.group(1));
+                while (word.find()) {
+                    shown.add(word.group(1));
+                }
+                form(m.group(1), m.group(2));
+            }
+        }
+        Set<String> due = new TreeSet<>(List.of("well", "man", "secret", "tie", "fills", "tells", "drinks", "thirst", "salt", "seed"));
+        check(shown.equals(due), "these forms of a text are shown: " + shown);
+    }
+
+    /** As many as it says are read, and one more is not. */
+    private static void form(String form, String most) {
+        String ahead = form.startsWith("well") ? "" : form.startsWith("man") ? PIT : PIT + MEN;
+        StringBuilder text = new StringBuilder(ahead);
+        int many = most == null ? 2 : Integer.parseInt(most);
+        for (int i = 0; i < many; i++) {
+            text.append(filled(form, i));
+        }
+        check(fault(text.toString()) == 0, "not read: " + text);
+        text.append(filled(form, many));
+        check(fault(text.toString()) == (most == null ? 0 : 2), "more than " + many + " of: " + form);
+    }
+
+    private static String filled(String form, int i) {
+        return form.replace("NAME", "n" + (char) ('a' + i)).replace("tie MAN", "tie ann").replace("MAN ..", "ann bob")
+            .replace("MAN", "bob").replace("WELL", "pit").replace("LAW", "if day < 1 then 2 else (which - deep) * 3")
+            .replaceAll("ROCK|WATER|WANT|HEAVY|\\bN\\b", "1");
+    }
+
+    private static int fault(String text) {
+        SecretWells x = new SecretWells();
+        Due.feed(x, text);
+        return x.read();
     }
 
     // ---- the commands
